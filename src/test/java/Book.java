@@ -1,4 +1,7 @@
-/** Calls of FormulaTrees with texts in place of single words and characters. */
+/**
+ * Calls of FormulaTrees with texts in place of single words and characters. An object is promised
+ * 512 calls alone, so no test makes more on one; a long form is asked for one call a character.
+ */
 final class Book {
     private Book() {
     }
@@ -36,24 +39,30 @@ final class Book {
 
     static String form(FormulaTrees x, int formula) {
         StringBuilder signs = new StringBuilder();
-        for (int k = 0; x.form(formula, k) != FormulaTrees.NONE; k++) {
-            signs.append((char) x.form(formula, k));
+        int sign = x.form(formula, 0);
+        for (int k = 1; sign != FormulaTrees.NONE; k++) {
+            signs.append((char) sign);
+            sign = x.form(formula, k);
         }
         return signs.toString();
     }
 
     static String name(FormulaTrees x, int sheet) {
         StringBuilder signs = new StringBuilder();
-        for (int k = 0; x.name(sheet, k) != FormulaTrees.NONE; k++) {
-            signs.append((char) x.name(sheet, k));
+        int sign = x.name(sheet, 0);
+        for (int k = 1; sign != FormulaTrees.NONE; k++) {
+            signs.append((char) sign);
+            sign = x.name(sheet, k);
         }
         return signs.toString();
     }
 
     static String letters(FormulaTrees x, int formula, int node) {
         StringBuilder signs = new StringBuilder();
-        for (int k = 0; x.letter(formula, node, k) != FormulaTrees.NONE; k++) {
-            signs.append((char) x.letter(formula, node, k));
+        int sign = x.letter(formula, node, 0);
+        for (int k = 1; sign != FormulaTrees.NONE; k++) {
+            signs.append((char) sign);
+            sign = x.letter(formula, node, k);
         }
         return signs.toString();
     }
@@ -87,7 +96,8 @@ final class Book {
         } else if (kind == 2 || kind == 3) {
             out.append('=').append(x.node(formula, node, 8));
         } else {
-            out.append(letters(x, formula, node).isEmpty() ? "" : ":" + letters(x, formula, node));
+            String letters = letters(x, formula, node);
+            out.append(letters.isEmpty() ? "" : ":" + letters);
         }
         int next = node + 1;
         int children = x.node(formula, node, 1);

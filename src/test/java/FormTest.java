@@ -6,6 +6,7 @@ public final class FormTest {
     public static void main(String[] args) {
         tokens();
         brackets();
+        pairs();
         prefixes();
         outside();
         Check.end();
@@ -85,6 +86,36 @@ public final class FormTest {
         due("((1+2)*(3-4))^(5&6)", "((1+2)*(3-4))^(5&6)");
     }
 
+    /** "around a node ( and ) where it would not be read as that child of that node otherwise, and only there", of each in each. */
+    private static void pairs() {
+        String[] nodes = {
+            "1", "\"a\"", "#N/A", "TRUE", "$A1", "S!A1:B2", "X", "F()", "F(,1)", "1%", "-1", "1^2", "1*2", "1/2", "1+2", "1-2", "1&2", "1=2", "1<>2", "1<2", "1>2",
+            "1<=2", "1>=2"};
+        for (String inner : nodes) {
+            inBrackets("", inner, "%");
+            inBrackets("-", inner, "");
+            inBrackets("", inner, "");
+            inBrackets("F(", inner, ")");
+            inBrackets("F(,", inner, ",)");
+            inBrackets("--", inner, "%%");
+            for (String sign : "^ * / + - & = <> < > <= >=".split(" ")) {
+                inBrackets("", inner, sign + "7");
+                inBrackets("7" + sign, inner, "");
+                inBrackets("7" + sign + "-", inner, "");
+                inBrackets("7" + sign, inner, sign + "7");
+            }
+        }
+    }
+
+    private static void inBrackets(String before, String inner, String behind) {
+        FormulaTrees x = Book.of("S");
+        String with = before + "(" + inner + ")" + behind;
+        String without = before + inner + behind;
+        Check.due("read of " + with, Book.read(x, 0, 0, with), -1);
+        Check.due("read of " + without, Book.read(x, 1, 0, without), -1);
+        Check.due("form of " + with, Book.form(x, 0), x.same(0, 1) ? without : with);
+    }
+
     private static void prefix(String name, String written) {
         FormulaTrees x = Book.of(name);
         String quoted = "'" + name.replace("'", "''") + "'!A1:b2";
@@ -138,26 +169,31 @@ public final class FormTest {
         theLongest();
     }
 
+    /** Asked for in parts, each of a new object. */
     private static void theLongest() {
-        FormulaTrees x = Book.of("S");
-        StringBuilder text = new StringBuilder("S!A1:A1");
         StringBuilder due = new StringBuilder();
-        String name = "a" + Book.times("'", 29) + "b";
         String written = "'a" + Book.times("''", 29) + "b'!";
-        for (int k = 0; k < 31; k++) {
-            text.append("+S!A1:A1");
-        }
-        Book.read(x, 0, 0, text.toString().substring(0, 255));
-        Book.text(x, name);
-        x.rename(0);
-        x.move(0, 1048575, 16383, 0, 1);
         for (int k = 0; k < 32; k++) {
             due.append(k == 0 ? "" : "+").append(written).append("XFD1048576:XFD1048576");
         }
         StringBuilder got = new StringBuilder();
-        for (int k = 0; x.form(1, k) != -1; k++) {
-            got.append((char) x.form(1, k));
+        int sign = 0;
+        for (int from = 0; sign != FormulaTrees.NONE; from += 300) {
+            FormulaTrees x = withTheLongest();
+            for (int k = from; k < from + 300 && sign != FormulaTrees.NONE; k++) {
+                sign = x.form(1, k);
+                got.append(sign == FormulaTrees.NONE ? "" : "" + (char) sign);
+            }
         }
         Check.due("the longest form", got.toString(), due.toString());
+    }
+
+    private static FormulaTrees withTheLongest() {
+        FormulaTrees x = Book.of("S");
+        Book.read(x, 0, 0, "S!A1:A1" + Book.times("+S!A1:A1", 31));
+        Book.text(x, "a" + Book.times("'", 29) + "b");
+        x.rename(0);
+        x.move(0, 1048575, 16383, 0, 1);
+        return x;
     }
 }

@@ -31,7 +31,8 @@ public final class RoundTest {
             make(text, 1 + RANDOM.nextInt(5));
             String spaced = text.toString();
             String tight = spaced.replace("\u0001", RANDOM.nextInt(3) == 0 ? " " : "");
-            if (tight.length() <= 256) {
+            // Longer ones would take more calls than an object is promised.
+            if (tight.length() <= 120) {
                 compare(tight, spaced);
             }
         }
@@ -81,9 +82,6 @@ public final class RoundTest {
         next = 0;
         String due = level(0);
         int place = Book.read(x, 0, 1, text);
-        if (due.split("[( ]").length > 128) {
-            return;
-        }
         Check.due("read of " + text, place, -1);
         if (place == -1) {
             Check.due("tree of " + text, Book.tree(x, 0), due);
@@ -170,6 +168,10 @@ public final class RoundTest {
         String form = Book.form(first, 0);
         Check.due("form of " + text, Book.read(x, 1, 0, form), -1);
         Check.due("tree of the form of " + text, x.same(0, 1), true);
+        bracketsAreNeeded(text, form);
+    }
+
+    private static void bracketsAreNeeded(String text, String form) {
         for (int open = 0; open < form.length(); open++) {
             if (form.charAt(open) == '(' && (open == 0 || !Character.isLetter(form.charAt(open - 1)))) {
                 String less = without(form, open);

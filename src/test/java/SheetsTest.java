@@ -20,9 +20,9 @@ public final class SheetsTest {
         FormulaTrees x = new FormulaTrees();
         String[] names = {"Sheet1", "It's 2", " ", LONGEST, "!\"#$%&()+,-.;<=>@^_`{|}~", "A1", "a''b", "x"};
         for (int k = 0; k < names.length; k++) {
-            for (String wrong : WRONG) {
-                Book.text(x, wrong);
-                Check.argument("sheet() as " + wrong, () -> x.sheet());
+            for (int wrong = k; wrong < WRONG.length; wrong += 4) {
+                Book.text(x, WRONG[wrong]);
+                Check.argument("sheet() as " + WRONG[wrong], () -> x.sheet());
             }
             if (k > 0) {
                 Book.text(x, names[k - 1].toUpperCase());

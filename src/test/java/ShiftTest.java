@@ -6,7 +6,10 @@ public final class ShiftTest {
     public static void main(String[] args) {
         puttingIn();
         takingOut();
+        farthest();
+        dollars();
         sheets();
+        afterTakingAway();
         wrongInputs();
         byCounting();
         Check.end();
@@ -80,6 +83,66 @@ public final class ShiftTest {
         due("f(A1,B2,C3:D4)+#REF!", true, 2, -1, "F(A1,#REF!,C2:D3)+#REF!");
     }
 
+    /** "n is not -1048576 .. 1048576": these themselves are not refused, of columns too. */
+    private static void farthest() {
+        due("A1048576", true, 1, -1048576, "#REF!");
+        due("A1048576", true, 1, -1048575, "A1");
+        due("A1048576", true, 1048576, -1048576, "#REF!");
+        due("A1048575", true, 1048576, -1048576, "A1048575");
+        due("A1:A1048576", true, 1, -1048576, "#REF!");
+        due("A1:A1048576", true, 1, -1048575, "A1:A1");
+        due("A1:A1048576", true, 2, -1048576, "A1:A1");
+        due("A1:A1048576", true, 1048576, -1048576, "A1:A1048575");
+        due("A1:A1048576", true, 1048576, 1048576, "A1:A1048576");
+        due("A1:A1048576", true, 1, 1048575, "A1048576:A1048576");
+        due("A1:A1048576", true, 1, 1048576, "#REF!");
+        due("A1:A1048576", true, 1, 0, "A1:A1048576");
+        due("A1048576", true, 1048576, 1048576, "#REF!");
+        due("A1048575", true, 1048576, 1048576, "A1048575");
+        due("XFD1", false, 16384, 1048576, "#REF!");
+        due("XFC1", false, 16384, 1048576, "XFC1");
+        due("XFD1", false, 1, -16383, "A1");
+        due("XFD1", false, 1, -16384, "#REF!");
+        due("XFD1", false, 1, -1048576, "#REF!");
+        due("A1:XFD1", false, 2, -1048576, "A1:A1");
+        due("A1:XFD1", false, 16384, -1, "A1:XFC1");
+        due("A1:XFD1", false, 1, 16383, "XFD1:XFD1");
+        due("A1:XFD1", false, 1, 16384, "#REF!");
+        due("A1:XFD1048576", true, 7, 0, "A1:XFD1048576");
+    }
+
+    /** "Columns likewise. $ is no matter." */
+    private static void dollars() {
+        for (int turn = 0; turn < 4; turn++) {
+            String column = turn % 2 == 0 ? "" : "$";
+            String row = turn < 2 ? "" : "$";
+            due(column + "C" + row + "5", true, 5, 2, column + "C" + row + "7");
+            due(column + "C" + row + "5", true, 5, -1, "#REF!");
+            due(column + "C" + row + "5", false, 3, 2, column + "E" + row + "5");
+            due(column + "C" + row + "5", false, 3, -1, "#REF!");
+            due("A1:" + column + "C" + row + "5", true, 5, 2, "A1:" + column + "C" + row + "7");
+            due("A1:" + column + "C" + row + "5", true, 2, -9, "A1:" + column + "C" + row + "1");
+            due("A1:" + column + "C" + row + "5", false, 3, 16384, "A1:" + column + "XFD" + row + "5");
+            due(column + "C" + row + "5:D6", false, 3, -1, column + "C" + row + "5:C6");
+            due(column + "C" + row + "5:D6", true, 1, -5, column + "C" + row + "1:D1");
+        }
+    }
+
+    /** "formulas at home there are no more": they are not shifted, nor counted. */
+    private static void afterTakingAway() {
+        FormulaTrees x = Book.of("S", "T");
+        Book.read(x, 0, 0, "A1+T!A1");
+        Book.read(x, 1, 1, "A1+S!A1");
+        Book.read(x, 2, 1, "A1");
+        x.remove(2);
+        x.drop(0);
+        Check.due("what is left", Book.form(x, 1), "A1+#REF!");
+        Check.due("of one formula alone", x.shift(0, true, 1, -1), 1);
+        Check.due("all lost", Book.form(x, 1), "#REF!+#REF!");
+        Check.due("none to lose", x.shift(0, true, 1, -1), 0);
+        Check.index("the sheet is no more", () -> x.shift(1, true, 1, -1));
+    }
+
     private static void sheets() {
         FormulaTrees x = Book.of("S", "T");
         Book.read(x, 0, 0, "A5+S!A5+T!A5+A5:A6");
@@ -122,45 +185,50 @@ public final class ShiftTest {
         Check.due("nothing changed", Book.form(x, 0), "A1");
     }
 
-    /** Each column of a range is looked at by itself, near both ends of the sheet. */
+    /** Each row or column of a reference is looked at by itself, near both ends of the sheet. */
     private static void byCounting() {
         java.util.Random random = new java.util.Random(9);
-        int[] from = {1, 16375};
-        for (int round = 0; round < 20000; round++) {
-            int base = from[random.nextInt(2)];
+        for (int round = 0; round < 40000; round++) {
+            boolean rows = random.nextBoolean();
+            int most = rows ? 1048576 : 16384;
+            int base = random.nextBoolean() ? 1 : most - 9;
             int one = base + random.nextInt(10);
-            int two = base + random.nextInt(10);
+            int two = random.nextInt(3) == 0 ? one : base + random.nextInt(10);
             int k = base + random.nextInt(10);
             int n = random.nextInt(24) - 12;
+            boolean isCell = one == two && random.nextBoolean();
             FormulaTrees x = Book.of("S");
-            String text = column(one) + "1:" + column(two) + "1";
+            String text = written(one, rows) + (isCell ? "" : ":" + written(two, rows));
             Book.read(x, 0, 0, text);
-            int lost = x.shift(0, false, k, n);
-            String due = counted(Math.min(one, two), Math.max(one, two), k, n);
-            String got = lost == 1 ? "lost" : x.node(0, 0, 4) + " .. " + x.node(0, 0, 6);
+            int lost = x.shift(0, rows, k, n);
+            String due = counted(Math.min(one, two), Math.max(one, two), k, n, most);
+            int first = rows ? 3 : 4;
+            String got = lost == 1 ? "lost" : x.node(0, 0, first) + " .. " + x.node(0, 0, first + 2);
             Check.due(text + " shifted by " + n + " at " + k, got, due);
+            Check.due("kind of " + text, x.node(0, 0, 0), lost == 1 ? 2 : isCell ? 4 : 5);
+            Check.due("the other side of " + text, x.node(0, 0, 7 - first), lost == 1 ? 0 : 1);
         }
     }
 
-    private static String counted(int first, int last, int k, int n) {
+    private static String counted(int first, int last, int k, int n, int most) {
         int least = Integer.MAX_VALUE;
         int greatest = 0;
-        for (int column = first; column <= last; column++) {
-            boolean isOut = n < 0 && column >= k && column < k - n;
-            int now = column >= k ? column + n : column;
+        for (int number = first; number <= last; number++) {
+            boolean isOut = n < 0 && number >= k && number < k - n;
+            int now = number >= k ? number + n : number;
             if (!isOut) {
                 least = Math.min(least, now);
                 greatest = Math.max(greatest, now);
             }
         }
-        return least > 16384 ? "lost" : least + " .. " + Math.min(greatest, 16384);
+        return least > most ? "lost" : least + " .. " + Math.min(greatest, most);
     }
 
-    private static String column(int number) {
+    private static String written(int number, boolean rows) {
         String letters = "";
-        for (int rest = number; rest > 0; rest = (rest - 1) / 26) {
+        for (int rest = rows ? 1 : number; rest > 0; rest = (rest - 1) / 26) {
             letters = (char) ('A' + (rest - 1) % 26) + letters;
         }
-        return letters;
+        return letters + (rows ? number : 1);
     }
 }
