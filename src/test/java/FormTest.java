@@ -166,7 +166,17 @@ public final class FormTest {
         for (int bad : new int[] {-1, 1, 8, Integer.MIN_VALUE, Integer.MAX_VALUE}) {
             Check.index("form(" + bad + ", 0)", () -> x.form(bad, 0));
         }
+        mostNodes();
         theLongest();
+    }
+
+    /** Forms of 128 nodes, to their ends. */
+    private static void mostNodes() {
+        due(Book.times("-", 127) + "1", Book.times("-", 127) + "1");
+        due("1" + Book.times("%", 127), "1" + Book.times("%", 127));
+        due("-" + Book.times("1+", 63) + "1", "-" + Book.times("1+", 63) + "1");
+String deepest = "-" + Book.times("(-", 32) + "1" + Book.times("%)", 32) + "%";
+        due(deepest, deepest);
     }
 
     /** Asked for in parts, each of a new object. */

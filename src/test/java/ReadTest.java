@@ -8,6 +8,7 @@ public final class ReadTest {
     public static void main(String[] args) {
         arguments();
         allStays();
+        nothingStaysOfAWrongText();
         numbers();
         textsAndErrors();
         wordsAndCells();
@@ -52,6 +53,22 @@ public final class ReadTest {
         Check.due("form is new", Book.form(x, 2), "2*3");
         Check.due("home is new", x.count(4), 0);
         Check.due("one formula", x.count(1), 1);
+    }
+
+    /** A text that is right is read as by a new object, whatever was read before. */
+    private static void nothingStaysOfAWrongText() {
+        String[] before = {"1+1+1+1+-", "((((1=2", "f(1,g(2,3,", "1+2*3^", "A1:", "S!", "f(-1*-2", "---", "1&(2&(3&f(", "1%%%1", "1*2+3"};
+        String[] texts = {"2+3", "1*2+3=4", "f(1+2,3)", "-1", "1", "(1+2)*3", "1-(2-3)-4", "A1:B2"};
+        for (String wrong : before) {
+            for (String text : texts) {
+                FormulaTrees x = Book.of("S");
+                Check.due("read of " + text, Book.read(x, 0, 0, text), -1);
+                Book.read(x, 1, 0, wrong);
+                Check.due("read of " + text + " again", Book.read(x, 2, 0, text), -1);
+                Check.due(text + " behind " + wrong, Book.tree(x, 2), Book.tree(x, 0));
+                Check.due("size of " + text, x.size(2), x.size(0));
+            }
+        }
     }
 
     private static void numbers() {

@@ -103,6 +103,52 @@ public final class SheetsTest {
         Check.due("no formulas", x.count(1), 0);
         Check.index("drop(0)", () -> x.drop(0));
         quotesFollowNames();
+        wholeFormulas();
+        eachSheet();
+    }
+
+    /** "cells and ranges on it become #REF!": also one that is the whole formula. */
+    private static void wholeFormulas() {
+        FormulaTrees x = Book.of("S", "T", "U");
+        Book.read(x, 0, 0, "T!$A$1");
+        Book.read(x, 1, 2, "T!A1:B2");
+        Book.read(x, 2, 0, "U!A1");
+        Book.read(x, 3, 2, "-S!A1%");
+        x.drop(1);
+        Check.due("a cell", Book.facts(x, 0, 0), "2 0 -1 0 0 0 0 0 4");
+        Check.due("a range", Book.facts(x, 1, 0), "2 0 -1 0 0 0 0 0 4");
+        Check.due("one behind", Book.facts(x, 2, 0), "4 0 1 1 1 1 1 0 0");
+        Check.due("one before", Book.facts(x, 3, 2), "4 0 0 1 1 1 1 0 0");
+        Check.due("both are the same now", x.same(0, 1), true);
+        Check.due("homes", x.count(2) + " " + x.count(3) + " " + x.count(4) + " " + x.count(5), "0 1 0 1");
+    }
+
+    /** "the sheets behind it have numbers less by 1": the first, one between, and the last of eight. */
+    private static void eachSheet() {
+        for (int gone = 0; gone < 8; gone++) {
+            FormulaTrees x = Book.of("a_", "b_", "c_", "d_", "e_", "f_", "g_", "h_");
+            for (int sheet = 0; sheet < 8; sheet++) {
+                Book.read(x, sheet, sheet, (char) ('a' + (sheet + 1) % 8) + "_!A1");
+            }
+            x.drop(gone);
+            Check.due("sheets", x.count(0), 7);
+            Check.due("formulas", x.count(1), 7);
+            Check.index("the eighth is no more", () -> x.name(7, 0));
+            for (int sheet = 0; sheet < 8; sheet++) {
+                int on = (sheet + 1) % 8;
+                if (sheet == gone) {
+                    int none = sheet;
+                    Check.due("home", x.count(2 + sheet), -1);
+                    Check.index("its formula", () -> x.size(none));
+                } else {
+                    int now = sheet > gone ? sheet - 1 : sheet;
+                    Check.due("home", x.count(2 + sheet), now);
+                    Check.due("name", Book.name(x, now), (char) ('a' + sheet) + "_");
+                    Check.due("form", Book.form(x, sheet), on == gone ? "#REF!" : (char) ('a' + on) + "_!A1");
+                    Check.due("on", x.node(sheet, 0, 2), on == gone ? -1 : on > gone ? on - 1 : on);
+                }
+            }
+        }
     }
 
     private static void quotesFollowNames() {
@@ -119,6 +165,13 @@ public final class SheetsTest {
         for (int k : outside) {
             Check.due("name(0, " + k + ")", x.name(0, k), -1);
         }
+        Check.due("the last character", x.name(0, 5), '~');
+        Book.text(x, LONGEST);
+        x.sheet();
+        Check.due("the last character of 31", x.name(1, 30), '1');
+        Check.due("behind 31", x.name(1, 31), -1);
+        Check.due("before them", x.name(1, -1), -1);
+        x.drop(1);
         Check.index("name(1, 0)", () -> x.name(1, 0));
         Check.index("name(-1, 0)", () -> x.name(-1, 0));
     }

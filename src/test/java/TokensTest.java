@@ -271,6 +271,12 @@ public final class TokensTest {
         tree("TRU", "6:TRU");
         tree("FALS", "6:FALS");
         tree("FALSEE", "6:FALSEE");
+        for (String truth : new String[] {"TRUE", "FALSE"}) {
+            for (int k = 0; k < truth.length(); k++) {
+                String other = truth.substring(0, k) + "Q" + truth.substring(k + 1);
+                tree(other, "6:" + other);
+            }
+        }
         wrong("TRUE (", 5);
         wrong("TRUE:A1", 4);
         wrong("TRUE FALSE", 5);
@@ -306,6 +312,9 @@ public final class TokensTest {
         tree("f(1,2)", "7:F(0:1 0:2)");
         tree("f(g(1),h())", "7:F(7:G(0:1) 7:H)");
         tree("f(1+2,-3)", "7:F(14(0:1 0:2) 10(0:3))");
+        tree("f(1+2,3+4,5*6,-7+8)", "7:F(14(0:1 0:2) 14(0:3 0:4) 12(0:5 0:6) 14(10(0:7) 0:8))");
+        tree("1*f(2=3,4=5)*6", "12(12(0:1 7:F(17(0:2 0:3) 17(0:4 0:5))) 0:6)");
+        tree("1*(2=3)*(4=5)", "12(12(0:1 17(0:2 0:3)) 17(0:4 0:5))");
         wrong("f (1)", 2);
         wrong("f(1", 3);
         wrong("f(1 2)", 4);

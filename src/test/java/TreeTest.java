@@ -163,6 +163,10 @@ public final class TreeTest {
         for (int k : new int[] {-1, 4, Integer.MIN_VALUE, Integer.MAX_VALUE}) {
             Check.due("letter(0, 0, " + k + ")", x.letter(0, 0, k), -1);
         }
+        for (int node = 0; node < due.length; node++) {
+            Check.due("a letter before those of node " + node, x.letter(0, node, -1), -1);
+            Check.due("a letter behind those of node " + node, x.letter(0, node, due[node].length()), -1);
+        }
         Check.due("a letter of an error", x.letter(0, 3, 0), -1);
         Book.read(x, 1, 0, "\"" + Book.times("~", 254) + "\"");
         Check.due("the longest text", x.letter(1, 0, 253), '~');
